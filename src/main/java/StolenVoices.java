@@ -72,10 +72,6 @@ public final class StolenVoices {
         for (int s = 0; s < SLOTS; s++) {
             slotUsed[s] = false;
         }
-        return playPiece();
-    }
-
-    private int playPiece() {
         int leftOut = 0;
         int at = 1;
         for (int n = 0; n < Piece.MOST && at < piece.length; n++) {
@@ -477,8 +473,10 @@ public final class StolenVoices {
 
         void begin(int newKey, int newStrength, int when) {
             key = newKey;
+            phase = RISING;
+            strength = newStrength;
             level = 0;
-            beginAnew(newStrength, when);
+            began = when;
         }
 
         void beginAnew(int newStrength, int when) {
@@ -547,7 +545,7 @@ public final class StolenVoices {
         // The strength of a key that is down; 0 if it is up.
         private final int[] held = new int[KEYS];
         private final int[] pressedWhen = new int[KEYS];
-        // Counts presses and beginnings, so that each has a number of its own.
+        // The greater number of two presses, or of two beginnings, tells the later one.
         private int lastEvent;
         boolean pedalDown;
         boolean comingBack;
@@ -637,7 +635,7 @@ public final class StolenVoices {
 
         int voiceWith(int key) {
             for (int v = 0; v < VOICES; v++) {
-                if (!voices[v].isFree() && voices[v].key == key) {
+                if (key != NONE && voices[v].key == key) {
                     return v;
                 }
             }
@@ -658,7 +656,7 @@ public final class StolenVoices {
             int bestBegan = 0;
             for (int v = 0; v < VOICES; v++) {
                 Voice voice = voices[v];
-                boolean counts = onlyDying ? voice.phase == DYING : !voice.isFree();
+                boolean counts = onlyDying ? voice.phase == DYING : voice.phase != FREE;
                 if (counts && (best == NONE || voice.began < bestBegan)) {
                     best = v;
                     bestBegan = voice.began;
@@ -670,16 +668,12 @@ public final class StolenVoices {
         private int quietestVoice() {
             int best = 0;
             for (int v = 1; v < VOICES; v++) {
-                if (isQuieter(voices[v], voices[best])) {
+                int louder = voices[v].level - voices[best].level;
+                if (louder < 0 || louder == 0 && voices[v].began < voices[best].began) {
                     best = v;
                 }
             }
             return best;
-        }
-
-        private static boolean isQuieter(Voice one, Voice other) {
-            return one.level < other.level
-                || one.level == other.level && one.began < other.began;
         }
 
         /** The voice that the rule steals when no voice is free. */
@@ -715,14 +709,10 @@ public final class StolenVoices {
             return key >= 0 && key < KEYS && held[key] > 0;
         }
 
-        private boolean isWaiting(int key) {
-            return isHeld(key) && voiceWith(key) == NONE;
-        }
-
         int countDown() {
             int count = 0;
             for (int k = 0; k < KEYS; k++) {
-                if (isHeld(k)) {
+                if (held[k] > 0) {
                     count++;
                 }
             }
@@ -732,7 +722,7 @@ public final class StolenVoices {
         int countWaiting() {
             int count = 0;
             for (int k = 0; k < KEYS; k++) {
-                if (isWaiting(k)) {
+                if (held[k] > 0 && voiceWith(k) == NONE) {
                     count++;
                 }
             }
@@ -743,7 +733,7 @@ public final class StolenVoices {
             int best = NONE;
             int bestWhen = 0;
             for (int k = 0; k < KEYS; k++) {
-                if (pressedWhen[k] > bestWhen && isWaiting(k)) {
+                if (held[k] > 0 && pressedWhen[k] > bestWhen && voiceWith(k) == NONE) {
                     best = k;
                     bestWhen = pressedWhen[k];
                 }
@@ -779,7 +769,6 @@ public final class StolenVoices {
             pressedWhen[key] = lastEvent;
             int own = voiceWith(key);
             if (own != NONE) {
-                lastEvent++;
                 voices[own].beginAnew(strength, lastEvent);
                 return own;
             }
@@ -864,8 +853,10 @@ public final class StolenVoices {
         private void bringKeysBack() {
             for (int n = 0; n < VOICES; n++) {
                 int free = lowestFree();
-                // Most ticks have no free voice, and looking for a key is dear.
-                int key = free == NONE ? NONE : latestWaiting();
+                if (free == NONE) {
+                    return;
+                }
+                int key = latestWaiting();
                 if (key == NONE) {
                     return;
                 }
@@ -893,8 +884,11 @@ public final class StolenVoices {
         }
 
         void remember(Synth synth) {
+            if (next >= MOST_REMEMBERED) {
+                next = 0;
+            }
             ring[next].copyFrom(synth);
-            next = next + 1 < MOST_REMEMBERED ? next + 1 : 0;
+            next++;
             count = Math.min(count + 1, MOST_REMEMBERED);
         }
 

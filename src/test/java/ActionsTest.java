@@ -12,6 +12,7 @@ public final class ActionsTest {
         settings();
         comingBack();
         comingBackInTurn();
+        comingBackIsABeginning();
         pass();
         undo();
         undoOfEach();
@@ -124,6 +125,8 @@ public final class ActionsTest {
         Check.same("its own voice", 5, x.press(5, 10));
         Check.same("none dies", -1, x.press(32, 10));
         Check.same("refused", 2, x.refused());
+        x.undo();
+        Check.same("refused, taken back", 1, x.refused());
     }
 
     private static void letGo() {
@@ -241,6 +244,26 @@ public final class ActionsTest {
         Check.same("4 is the oldest", 1, x.oldest());
         Check.same("notes", 19, x.notesByBeginning());
         Check.same("notes", 19, x.notesByEnds());
+    }
+
+    private static void comingBackIsABeginning() {
+        StolenVoices x = Check.pressed(6, 100);
+        x.setRule(1);
+        x.press(6, 100);
+        x.setComingBack(true);
+        x.letGo(6);
+        x.letGo(1);
+        x.press(1, 100);
+        x.pass(1);
+        Check.same("0 is back on its old voice", 0, x.voiceOf(0));
+        for (int k = 2; k < 6; k++) {
+            x.letGo(k);
+            x.press(k, 100);
+        }
+        Check.same("pressed before it came back", 1, x.oldest());
+        x.letGo(1);
+        x.press(1, 100);
+        Check.same("so it is the oldest now", 0, x.oldest());
     }
 
     private static void pass() {

@@ -145,8 +145,9 @@ public final class TextTest {
     private static void load() {
         StolenVoices x = new StolenVoices();
         Check.type(x, "V");
+        String asNew = Check.print(x);
         Check.same("load of V", 0, x.load());
-        Check.same("as new", Check.print(Check.playing("V")), Check.print(x));
+        Check.same("as new", asNew, Check.print(x));
         Check.type(x, "Vp01100p02050p03020t03r01t02");
         Check.same("load", 0, x.load());
         Check.same("levels", "[500, 300, 120, 0, 0, 0]", Check.levels(x));
@@ -200,7 +201,9 @@ public final class TextTest {
         x.save(1);
         Check.type(x, "Vp00100");
         Check.same("load", 0, x.load());
-        Check.same("as new", Check.print(Check.playing("Vp00100")), Check.print(x));
+        StolenVoices y = Check.pressed(1, 100);
+        Check.type(y, "Vp00100");
+        Check.same("as new", Check.print(y), Check.print(x));
         Check.noState("undo", x, x::undo);
         Check.noState("slot 0", x, () -> x.restore(0));
         Check.noState("slot 1", x, () -> x.restore(1));
@@ -208,6 +211,12 @@ public final class TextTest {
         Check.same("share", 60, x.setStaying(60, 50));
         x.pass(6);
         Check.same("fall", 900, x.levelOf(0));
-        Check.same("waiting", 0, x.setComingBack(false));
+        for (int k = 1; k < 7; k++) {
+            x.press(k, 1);
+        }
+        x.letGo(6);
+        x.pass(9);
+        Check.same("one waits", 1, x.keysWaiting());
+        Check.same("and one is free, but none comes back", 5, x.sounding());
     }
 }

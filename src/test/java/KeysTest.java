@@ -38,6 +38,8 @@ public final class KeysTest {
         StolenVoices y = Check.pressed(60, 10 - 5);
         Check.same("all down", 60, y.keysDown());
         Check.same("all but six wait", 54, y.keysWaiting());
+        StolenVoices z = Check.pressed(7, 1);
+        Check.same("the least strength waits, too", 0, z.nextBack());
     }
 
     private static void waiting() {

@@ -187,6 +187,9 @@ public final class TextTest {
 
     private static void loadForgets() {
         StolenVoices x = Check.pressed(8, 40);
+        x.letGo(7);
+        x.pass(1);
+        Check.same("a note ended", 7, x.sounding() + x.stolen());
         x.setRising(7, 8);
         x.setStaying(9, 10);
         x.setRule(3);

@@ -9,6 +9,8 @@ final class Check {
 
     private static int wrong = 0;
     private static int done = 0;
+    /** What stands ahead of each wrong answer. */
+    private static String about = "";
 
     private Check() {
     }
@@ -17,8 +19,16 @@ final class Check {
         done++;
         if (!want.equals(got)) {
             wrong++;
-            System.out.println(what + ": answered " + got + ", due is " + want);
+            System.out.println(about + what + ": answered " + got + ", due is " + want);
         }
+    }
+
+    static void about(String words) {
+        about = words;
+    }
+
+    static int done() {
+        return done;
     }
 
     /** The answer of a call, or the name of what it throws. */

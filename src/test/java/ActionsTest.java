@@ -289,25 +289,26 @@ public final class ActionsTest {
         Check.noState("undo", x, x::undo);
         String[] before = new String[20];
         for (int n = 0; n < 20; n++) {
-            before[n] = Check.print(x);
+            before[n] = Check.trace(x);
             x.press(n, 50 + n);
         }
         for (int n = 19; n >= 6; n--) {
             Check.same("remembered", n - 6, x.undo());
-            Check.same("taken back", before[n], Check.print(x));
+            Check.same("taken back", before[n], Check.trace(x));
         }
         Check.noState("the rest is forgotten", x, x::undo);
         x.press(50, 5);
         Check.same("one again", 0, x.undo());
-        Check.same("taken back", before[6], Check.print(x));
+        Check.same("taken back", before[6], Check.trace(x));
+        StolenVoices y = new StolenVoices();
         for (int n = 0; n < 13; n++) {
-            x.setRule(0);
+            y.setRule(0);
         }
-        x.setPedal(false);
-        Check.same("what changes nothing is remembered", 13, x.undo());
-        x.pass(1);
-        x.pass(1);
-        Check.same("at most 14", 13, x.undo());
+        y.setPedal(false);
+        Check.same("what changes nothing is remembered", 13, y.undo());
+        y.pass(1);
+        y.pass(1);
+        Check.same("at most 14", 13, y.undo());
     }
 
     private static void undoOfEach() {
@@ -316,15 +317,15 @@ public final class ActionsTest {
         x.setPedal(true);
         x.letGo(4);
         x.pass(2);
-        String before = Check.print(x);
+        String before = Check.trace(x);
         Check.Call[] actions = {() -> x.press(30, 4), () -> x.letGo(7), () -> x.setPedal(false),
             () -> x.setRising(3, 4), () -> x.setStaying(3, 4), () -> x.setRule(3),
             () -> x.setComingBack(true), () -> x.pass(9)};
         for (int i = 0; i < actions.length; i++) {
             actions[i].go();
-            Check.same("action " + i + " changes something", false, before.equals(Check.print(x)));
+            Check.same("action " + i + " changes something", false, before.equals(Check.trace(x)));
             Check.same("action " + i + " is taken back", 12, x.undo());
-            Check.same("action " + i, before, Check.print(x));
+            Check.same("action " + i, before, Check.trace(x));
         }
         x.clearText();
         Check.type(x, "Vd");
@@ -332,6 +333,6 @@ public final class ActionsTest {
         x.undo();
         Check.same("the text is none of the state", 2, x.clearText());
         Check.same("nor are the slots", 5, x.restore(0));
-        Check.same("as saved", before, Check.print(x));
+        Check.same("as saved", before, Check.trace(x));
     }
 }

@@ -139,6 +139,9 @@ final class KeyEdges {
             Check.same("all of six have voices", 0, Check.pressed(6, 1).keysWaiting());
             Check.same("one of seven", 1, Check.pressed(7, 1).keysWaiting());
             Check.same("54 of 60", 54, Check.pressed(60, 1).keysWaiting());
+            StolenVoices ends = waiting(1);
+            ends.press(59, 1);
+            Check.same("the least and the greatest key", 2, ends.keysWaiting());
             StolenVoices x = waiting(2);
             Check.same("refused ones", 2, x.keysWaiting());
             x.letGo(0);

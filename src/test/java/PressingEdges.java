@@ -215,6 +215,23 @@ final class PressingEdges {
             Check.same("500 of 510", low, x.victim());
             Check.same("it is stolen", low, x.press(50, 9));
         }
+        for (int low = 0; low < 6; low++) {
+            StolenVoices x = Check.pressed(6, 100);
+            x.pass(5);
+            x.setStaying(60, 1);
+            x.setRising(1000, 1);
+            x.letGo(low);
+            x.pass(1);
+            x.press(low, 100);
+            x.setRising(1000, 2);
+            x.pass(1);
+            Check.same("levels", 5 * 997 + 1000, x.loudnessByVoices());
+            x.letGo((low + 1) % 6);
+            x.setStaying(60, 3);
+            x.setRising(1000, 2);
+            x.pass(1);
+            Check.same("by 1 lower than the others", (low + 1) % 6, x.victim());
+        }
         StolenVoices x = Check.pressed(6, 50);
         x.setRising(1000, 1);
         x.pass(1);

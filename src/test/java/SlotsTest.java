@@ -29,7 +29,7 @@ public final class SlotsTest {
         x.setComingBack(true);
         x.pass(3);
         Check.same("save", 4, x.save(0));
-        String saved = Check.print(x);
+        String saved = Check.trace(x);
         Check.same("save is no action", 10, x.undo());
         for (int n = 0; n < 3; n++) {
             x.setPedal(false);
@@ -41,7 +41,7 @@ public final class SlotsTest {
             x.press(50 + n, 9);
             x.pass(99);
             Check.same("restore", 4, x.restore(0));
-            Check.same("as saved", saved, Check.print(x));
+            Check.same("as saved", saved, Check.trace(x));
             Check.noState("nothing is remembered", x, x::undo);
             Check.same("rise", 7, x.setRising(7, 8));
             Check.same("share", 9, x.setStaying(9, 10));

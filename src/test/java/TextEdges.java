@@ -371,16 +371,18 @@ final class TextEdges {
             Check.same("full", 120, fullText().clearText());
         });
         Sentence.holds("Promise 3", "the text buffer", () -> {
-            StolenVoices x = Twins.full();
-            StolenVoices y = Twins.full();
-            x.clearText();
-            y.clearText();
-            y.append('V');
-            y.append('d');
-            y.clearText();
-            Check.same("nothing else", Check.print(x), Check.print(y));
-            Check.same("no action", Twins.past(x), Twins.past(y));
+            Twins.changesNothing(StolenVoices::new, StolenVoices::clearText);
+            Twins.changesNothing(TextEdges::withoutText, x -> {
+                Check.same("append", 1, x.append('V'));
+                Check.same("and emptied again", 1, x.clearText());
+            });
         });
+    }
+
+    private static StolenVoices withoutText() {
+        StolenVoices x = Twins.full();
+        x.clearText();
+        return x;
     }
 
     // ---- promise 4
@@ -449,6 +451,10 @@ final class TextEdges {
         });
         Sentence.holds("Promise 5", "Returns the number of commands that are left out", () -> {
             Check.same("of none", 0, leftOutOf("V"));
+            for (String done : new String[] {"p00001", "p59100", "d", "u", "t01", "t99", "s0", "s3", "dd", "uu"}) {
+                Check.same("none of " + done, 0, leftOutOf("V" + done));
+            }
+            Check.same("none of two", 0, leftOutOf("Vp59001r59"));
             Check.same("none of one", 0, leftOutOf("Vp00001"));
             Check.same("one of one", 1, leftOutOf("Vr00"));
             Check.same("all of 39", 39, leftOutOf("V" + "r59".repeat(39)));
@@ -480,8 +486,10 @@ final class TextEdges {
         Check.type(y, "V");
         Check.same("all that is told", Check.print(y), Check.print(x));
         StolenVoices z = Twins.full();
+        z.press(59, 100);
         Check.type(z, "V");
         z.load();
+        Check.same("no key is down, from 0 to 59", 0, z.keysDown());
         Check.same("rise", 200, z.setRising(200, 100));
         Check.same("share", 60, z.setStaying(60, 50));
         for (int k = 0; k < 7; k++) {

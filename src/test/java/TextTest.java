@@ -145,9 +145,9 @@ public final class TextTest {
     private static void load() {
         StolenVoices x = new StolenVoices();
         Check.type(x, "V");
-        String asNew = Check.print(x);
+        String asNew = Check.trace(x);
         Check.same("load of V", 0, x.load());
-        Check.same("as new", asNew, Check.print(x));
+        Check.same("as new", asNew, Check.trace(x));
         Check.type(x, "Vp01100p02050p03020t03r01t02");
         Check.same("load", 0, x.load());
         Check.same("levels", "[500, 300, 120, 0, 0, 0]", Check.levels(x));
@@ -206,7 +206,7 @@ public final class TextTest {
         Check.same("load", 0, x.load());
         StolenVoices y = Check.pressed(1, 100);
         Check.type(y, "Vp00100");
-        Check.same("as new", Check.print(y), Check.print(x));
+        Check.same("as new", Check.trace(y), Check.trace(x));
         Check.noState("undo", x, x::undo);
         Check.noState("slot 0", x, () -> x.restore(0));
         Check.noState("slot 1", x, () -> x.restore(1));

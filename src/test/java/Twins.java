@@ -40,17 +40,12 @@ final class Twins {
         }
     }
 
-    private static String trace(StolenVoices x) {
-        return List.of(x.keysDown(), x.keysWaiting(), x.notesByBeginning(), x.notesByEnds(), x.stolen(), x.refused(),
-            x.ticks(), x.rule(), x.isPedalDown(), x.loudnessByVoices(), x.quietIn(), x.simulate(7, 60)).toString();
-    }
-
     /** All remembered states, the last one first. */
     static String past(StolenVoices x) {
         List<Object> all = new ArrayList<>();
         for (int n = 0; n < 16; n++) {
             all.add(Check.answer(x::undo));
-            all.add(trace(x));
+            all.add(Check.trace(x));
         }
         return all.toString();
     }
@@ -60,18 +55,18 @@ final class Twins {
         for (int slot = 0; slot < 2; slot++) {
             int s = slot;
             all.add(Check.answer(() -> x.restore(s)));
-            all.add(trace(x));
+            all.add(Check.trace(x));
         }
         return all.toString();
     }
 
     static String settings(StolenVoices x) {
         return List.of(x.setRising(1, 1), x.setStaying(1, 1), x.setRule(0), x.setPedal(false),
-            x.setComingBack(true), x.pass(9), trace(x)).toString();
+            x.setComingBack(true), x.pass(9), Check.trace(x)).toString();
     }
 
     static String text(StolenVoices x) {
-        return List.of(Check.answer(x::load), trace(x), x.clearText()).toString();
+        return List.of(Check.answer(x::load), Check.trace(x), x.clearText()).toString();
     }
 
     /** Voices in every phase, two of them free; a kept one, and a note that has ended; slot 1 is used. */

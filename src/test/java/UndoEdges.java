@@ -71,6 +71,7 @@ final class UndoEdges {
         takenBack("setRule", x -> x.setRule(0));
         takenBack("setComingBack", UndoEdges::soonFree, x -> x.setComingBack(false));
         takenBack("pass", x -> x.pass(99));
+        takenBack("pass, in which notes end", UndoEdges::soonFree, x -> x.pass(99));
     }
 
     private static void notTheText() {

@@ -36,6 +36,7 @@ final class VoiceTermsEdges {
         Sentence.holds(PART, "if it would be 0 or lower, the voice becomes free", VoiceTermsEdges::dead);
         Sentence.holds(PART, "and its note has ended", VoiceTermsEdges::noteEnds);
         Sentence.holds(PART, "A voice is older than another one if it began earlier", VoiceTermsEdges::older);
+        Sentence.holds(PART, "older than another one if it began earlier", VoiceTermsEdges::olderThanBack);
         Sentence.holds(PART, "(also anew)", VoiceTermsEdges::olderAnew);
     }
 
@@ -454,6 +455,31 @@ final class VoiceTermsEdges {
         x.letGo(10);
         x.pass(1);
         Check.same("then the one that began latest", 0, x.oldest());
+    }
+
+    private static void olderThanBack() {
+        StolenVoices x = Check.pressed(7, 100);
+        x.setComingBack(true);
+        x.setStaying(60, 1000);
+        for (int k = 1; k < 6; k++) {
+            x.letGo(k);
+        }
+        x.pass(1);
+        Check.same("the key 0 came back to 1", 1, x.voiceOf(0));
+        Check.same("the key 6 was pressed before", 0, x.oldest());
+        StolenVoices y = Check.pressed(7, 100);
+        y.setComingBack(true);
+        y.setStaying(60, 1000);
+        y.letGo(6);
+        y.letGo(5);
+        y.press(5, 100);
+        y.pass(1);
+        Check.same("the key 0 came back to 0", 0, y.voiceOf(0));
+        for (int k = 1; k < 5; k++) {
+            y.letGo(k);
+        }
+        y.pass(1);
+        Check.same("the key 5 was pressed before, and its voice began anew", 5, y.oldest());
     }
 
     private static void olderAnew() {

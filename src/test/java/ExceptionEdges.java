@@ -26,7 +26,8 @@ final class ExceptionEdges {
         Sentence.holds(PART, "IllegalArgumentException means that another argument is out of its range",
             ExceptionEdges::noArgument);
         Sentence.holds(PART, "IllegalStateException means what the method says", ExceptionEdges::noState);
-        Sentence.holds(PART, "If several exceptions apply to a call, the one that its description names first is thrown",
+        Sentence.holds(PART,
+            "If several exceptions apply to a call, the one that its description names first is thrown",
             ExceptionEdges::firstNamed);
         Sentence.holds(PART, "A call that throws an exception changes nothing", ExceptionEdges::changesNothing);
         Sentence.holds(PART, "NONE = -1", () -> Check.same("NONE", -1, StolenVoices.NONE));

@@ -24,7 +24,8 @@ final class VoiceTermsEdges {
         Sentence.holds(PART, "divided by 100, rounded down", VoiceTermsEdges::restRoundedDown);
         Sentence.holds(PART, "Time passes in ticks", VoiceTermsEdges::onlyTicks);
         Sentence.holds(PART, "In a tick each voice", VoiceTermsEdges::eachVoice);
-        Sentence.holds(PART, "1: its level becomes higher by the rise (1 to 1000; at first 200)", VoiceTermsEdges::rise);
+        Sentence.holds(PART, "1: its level becomes higher by the rise (1 to 1000; at first 200)",
+            VoiceTermsEdges::rise);
         Sentence.holds(PART, "at most the peak; if it is at the peak", VoiceTermsEdges::atPeak);
         Sentence.holds(PART, "(or was above it), it is the peak, and the phase becomes 2",
             VoiceTermsEdges::abovePeak);

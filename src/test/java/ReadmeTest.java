@@ -1,5 +1,4 @@
 import java.io.ByteArrayOutputStream;
-import java.io.IOException;
 import java.io.PrintStream;
 import java.nio.file.Files;
 import java.nio.file.Path;
@@ -7,7 +6,6 @@ import java.util.ArrayList;
 import java.util.List;
 import java.util.regex.Matcher;
 import java.util.regex.Pattern;
-import javax.tools.ToolProvider;
 
 /** What README.md says: its program prints what stands behind it, and its calls answer what stands beside them. */
 public final class ReadmeTest {
@@ -67,11 +65,11 @@ public final class ReadmeTest {
     }
 
     /** Compiles and runs the class; answers what it prints. */
-    private static String run(String name, String text) throws ReflectiveOperationException, IOException {
+    private static String run(String name, String text) throws Exception {
         Path source = CLASSES.resolve(name + ".java");
         Files.writeString(source, text);
         String to = CLASSES.toString();
-        int exit = ToolProvider.getSystemJavaCompiler().run(null, null, null, "-cp", to, "-d", to, source.toString());
+        int exit = new ProcessBuilder("javac", "-cp", to, "-d", to, source.toString()).inheritIO().start().waitFor();
         Check.same(name + " is compiled", 0, exit);
         if (exit != 0) {
             return "";
